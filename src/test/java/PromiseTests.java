@@ -255,6 +255,11 @@ public final class PromiseTests {
         g.knock(0, 0, true);
         due("both cannot be", g.place(0, 4), 0);
         due("none", g.place(0, 5), NONE);
+        LentGallery h = read("929999;99");
+        h.tenant(TENANT, 1);
+        h.knock(0, 9, true);
+        due("place 1 falls on day 2, place 0 is less by 1 from day 3", h.place(0, 4), 0b1100000000);
+        due("8 falls on day 10, 9 on day 11", h.place(0, 5), 10);
         g.forget();
         g.prop(3);
         g.prop(3);
@@ -627,6 +632,10 @@ public final class PromiseTests {
         due("nor a day", g.count(6), 0);
         due("nor a fall", g.count(7), 0);
         due("nor a move", g.about(0, 1), 0);
+        LentGallery w = read("999919;11");
+        w.tenant(TENANT, 0);
+        // by seed 1: 16838 is the draw of the tenant, then 5758 that of the place: 4
+        due("he moves ahead of the day", w.years(1, 1, 0), 1);
         LentGallery c = read("111111;11");
         c.tenant(COUPLE, 0);
         c.tenant(COUPLE, 0);
@@ -682,6 +691,7 @@ public final class PromiseTests {
         due("a new one takes the number", g.tenant(COUPLE, 1), 2);
         due("and is of his own kind", g.about(2, 0), COUPLE);
         g.forget();
+        g.knock(1, 0, false);
         due("again", g.restore(), 1);
         due("all is as it was", g.digest(), kept);
         g.where(0);
@@ -697,6 +707,26 @@ public final class PromiseTests {
         due("an image of that", g.image(), 0);
         due("restore", g.restore(), 0);
         due("its strength", g.place(5, 0), 6);
+        knocksOfTheImage();
+    }
+
+    private static void knocksOfTheImage() {
+        LentGallery g = read("999999;11");
+        g.tenant(SCHOOL, 0);
+        g.knock(0, 3, true);
+        g.image();
+        g.forget();
+        g.knock(0, 1, true);
+        g.restore();
+        due("behind how many days", g.place(0, 4), 0b1110000000);
+        g.forget();
+        g.knock(0, 3, false);
+        g.restore();
+        due("that it stood", g.place(0, 4), 0b1110000000);
+        g.forget();
+        g.knock(1, 3, true);
+        g.restore();
+        due("at which place", g.place(0, 4), 0b1110000000);
     }
 
     private static void count() {
