@@ -212,6 +212,18 @@ public final class WouldBeBoundaryTests extends Boundaries {
         due("it was done", g.count(12), 3);
     }
 
+    @Says("NONE: there is none such, or all have FALLEN")
+    static void promise14_where_allHaveFallenSinceItWasDone() {
+        LentGallery g = read("130000;11");
+        g.tenant(TENANT, 1);
+        due("3 by 2 in place 1, 1 by 1 in place 0", g.where(0), 2);
+        due("he is best in 1", g.where(10), 1);
+        days(g, 3);
+        due("count(0)", g.count(0), 0);
+        due("where(0)", g.where(0), NONE);
+        due("where(10)", g.where(10), NONE);
+    }
+
     @Says("for which PLACES of all TENANTS (of those that have not FALLEN)")
     static void promise14_where_notInAFallenPlace() {
         LentGallery g = read("005000;11");
